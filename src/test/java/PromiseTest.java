@@ -19,6 +19,8 @@ public final class PromiseTest {
         may();
         mayByBars();
         mayBlock();
+        mayAtWarmth3();
+        mayAsThingsChange();
         hold();
         come();
         go();
@@ -32,6 +34,7 @@ public final class PromiseTest {
         ofSteps();
         walk();
         walkSpent();
+        walkFromCorners();
         walkLimits();
         ways();
         wayStays();
@@ -40,11 +43,14 @@ public final class PromiseTest {
         orderlyLongRuns();
         rule();
         ruleClears();
+        ruleClearsKinds();
+        ruleSeeds();
         row();
         undo();
         undoLast200();
         keepAndBack();
         backAndSteps();
+        backToOtherKinds();
         about();
         DUE.end();
     }
@@ -89,6 +95,21 @@ public final class PromiseTest {
         x.piece(1, 1, 1, 1, 1, 0);
         x.seed(0, 3, 3);
         is("1: GLUES without STRENGTH", x.hold(0, 3, 4), 0);
+        GrowingTiles y = new GrowingTiles();
+        y.draw(99);
+        y.back(1);
+        y.glue(1, 1);
+        y.warmth(1);
+        y.piece(1, 1, 1, 1, 1, 0);
+        y.piece(0, 1, 1, 1, 1, 0);
+        y.seed(0, 8, 8);
+        y.grow(12);
+        GrowingTiles z = plain();
+        z.seed(0, 8, 8);
+        z.grow(12);
+        for (int place = 0; place < 256; place++) {
+            is("1: s of an IMAGE is 0", y.of(place % 16, place / 16, 3), z.of(place % 16, place / 16, 3));
+        }
     }
 
     private static void glue() {
@@ -140,6 +161,14 @@ public final class PromiseTest {
         GrowingTiles x = plain();
         x.seed(0, 5, 5);
         is("3: CHOICES before", x.choices(), 4);
+        GrowingTiles y = plain();
+        y.seed(0, 5, 5);
+        is("3: CHOICES before", y.choices(), 4);
+        y.piece(0, 1, 0, 0, 0, 0);
+        is("3: CHOICES with one more", y.choices(), 5);
+        y.feed(0x00010000, 0, 0, 0, 0);
+        is("5: set(8)", y.set(8), 1);
+        is("5: CHOICES with one more", y.choices(), 6);
         for (int i = 2; i < 40; i++) {
             is("3: PIECE " + i, x.piece(0, 1, 1, 1, 1, 0), i);
         }
@@ -183,6 +212,9 @@ public final class PromiseTest {
         is("5: a BLOCK's above is 1", x.hold(1, 5, 6), 1);
         is("5: a BLOCK's other's below is 50", x.hold(1, 4, 4), 2);
         is("5: a BLOCK's other's above is 1", x.hold(1, 4, 6), 1);
+        is("5: a BLOCK's left is 50", x.force(1, 8, 8) ? x.hold(1, 6, 8) : NONE, 0);
+        is("5: a WEAK one's right is 1", x.hold(3, 7, 8), 0);
+        is("5: a WEAK one's above is 1", x.hold(3, 8, 9), 1);
         is("5: MARKED bars above alone", x.force(2, 10, 10) ? x.of(10, 10, 1) : NONE, 2);
         is("5: WEAK", x.force(3, 12, 12) ? x.of(12, 12, 0) : NONE, 3);
         is("5: a PIECE of nothing", x.force(4, 14, 14) ? x.of(14, 14, 0) : NONE, 0);
@@ -212,6 +244,17 @@ public final class PromiseTest {
         is("5: a BLOCK's MORE may be too high", x.set(20), 0);
         x.feed(0xFF000000, 0, 0, 0, 0);
         is("5: bytes have no sign", x.set(20), 0);
+        int[] dx = {0, 1, 0, -1};
+        int[] dy = {-1, 0, 1, 0};
+        for (int d = 0; d < 4; d++) {
+            GrowingTiles y = plain();
+            y.feed(d < 3 ? 1 << 8 * (2 - d) : 0, d < 3 ? 0 : 1 << 24, 0, 0, 0);
+            is("5: one PIECE", y.set(8), 1);
+            y.seed(0, 8, 8);
+            for (int e = 0; e < 4; e++) {
+                is("5: side " + d + " from " + e, y.hold(2, 8 - dx[e], 8 - dy[e]), d == e ? 1 : 0);
+            }
+        }
     }
 
     private static void warmth() {
@@ -363,6 +406,67 @@ public final class PromiseTest {
         is("9: just on it", x.may(1, 14, 9), true);
     }
 
+    private static void mayAtWarmth3() {
+        GrowingTiles x = plain();
+        x.clear();
+        x.glue(2, 2);
+        x.glue(3, 3);
+        x.warmth(3);
+        x.piece(1, 2, 2, 2, 2, 0);
+        x.piece(1, 3, 3, 3, 3, 0);
+        x.piece(0, 1, 2, 1, 3, 0);
+        x.piece(0, 2, 1, 1, 1, 0);
+        x.seed(0, 5, 4);
+        x.seed(2, 6, 5);
+        is("9: 1 and 2 at WARMTH 3", x.may(4, 5, 5), true);
+        x.clear();
+        x.seed(0, 5, 4);
+        x.seed(0, 5, 6);
+        is("9: 1 and 1 at WARMTH 3", x.may(1, 5, 5), false);
+        x.seed(0, 4, 5);
+        is("9: 1, 1 and 1 at WARMTH 3", x.may(1, 5, 5), true);
+        is("9: 1 and 1 of them", x.may(4, 5, 5), false);
+        x.clear();
+        x.seed(2, 6, 5);
+        is("9: 2 at WARMTH 3", x.may(4, 5, 5), false);
+        x.clear();
+        x.seed(3, 4, 5);
+        is("9: 3 at WARMTH 3", x.may(4, 5, 5), true);
+        x.clear();
+        x.seed(2, 5, 4);
+        x.seed(0, 5, 6);
+        is("9: 2 and 1 at WARMTH 3", x.may(5, 5, 5), true);
+    }
+
+    /** Asked before and behind each STEP: what may come is never what might have come earlier. */
+    private static void mayAsThingsChange() {
+        GrowingTiles x = plain();
+        x.piece(2, 1, 1, 1, 1, 65);
+        int[][] spots = {{8, 9}, {7, 9}, {8, 7}, {7, 7}, {9, 8}, {6, 8}};
+        for (int round = 0; round < 2; round++) {
+            is("9: none", x.choices(), 0);
+            for (int[] spot : spots) {
+                is("9: a BLOCK by nothing", x.may(2, spot[0], spot[1]), false);
+            }
+            x.seed(0, 8, 8);
+            for (int[] spot : spots) {
+                is("9: a BLOCK at each side", x.may(2, spot[0], spot[1]), true);
+            }
+            is("14: ten", x.choices(), 10);
+            x.undo(1);
+        }
+        x.seed(0, 8, 8);
+        x.choices();
+        x.force(1, 7, 10);
+        is("9: above what is new, by its other PLACE", x.may(2, 6, 9), true);
+        is("9: below what is new, by its other PLACE", x.may(2, 6, 11), true);
+        is("9: to the left of what is new", x.may(2, 5, 10), true);
+        x.force(1, 6, 9);
+        is("9: not any longer", x.may(2, 6, 9), false);
+        is("9: nor there", x.may(2, 5, 9), false);
+        is("9: but there", x.may(2, 4, 9), true);
+    }
+
     private static void hold() {
         GrowingTiles x = plain();
         x.glue(2, 3);
@@ -475,6 +579,15 @@ public final class PromiseTest {
         x.come(2, 5, 4);
         is("12: over both halves", x.go(5, 4), true);
         x.undo(1);
+        x.come(1, 5, 6);
+        is("12: over both halves from the left", x.go(5, 4), true);
+        x.undo(2);
+        x.force(4, 7, 6);
+        x.force(4, 8, 6);
+        is("12: what lies below a BLOCK is not led to", x.go(5, 4), false);
+        x.undo(2);
+        is("12: now it is", x.go(5, 4), true);
+        x.undo(1);
         x.force(5, 0, 0);
         is("12: apart", x.go(5, 4), false);
         x.undo(1);
@@ -580,6 +693,18 @@ public final class PromiseTest {
         is("17: until ENDED", x.grow(250), 5);
         is("17: full", x.about(1), 256);
         is("17: ENDED", x.grow(1), 0);
+        GrowingTiles y = plain();
+        y.draw(3);
+        is("17: nothing to draw of", y.grow(9), 0);
+        y.seed(0, 8, 8);
+        y.grow(9);
+        GrowingTiles z = plain();
+        z.draw(3);
+        z.seed(0, 8, 8);
+        z.grow(9);
+        for (int place = 0; place < 256; place++) {
+            is("17: ENDED, none is drawn", y.of(place % 16, place / 16, 3), z.of(place % 16, place / 16, 3));
+        }
         is("14: none when full", x.choices(), 0);
     }
 
@@ -739,6 +864,27 @@ public final class PromiseTest {
         walkJust300();
     }
 
+    private static void walkFromCorners() {
+        GrowingTiles x = new GrowingTiles();
+        x.glue(1, 1);
+        x.warmth(1);
+        x.piece(0, 1, 1, 1, 1, 0);
+        x.piece(1, 1, 1, 1, 1, 0);
+        x.seed(1, 0, 1);
+        is("20: up to the corner", x.walk(2), 4);
+        is("22: the corner", x.way(1, 0, 0), 0);
+        x.clear();
+        x.seed(1, 15, 14);
+        is("20: down to the corner", x.walk(2), 4);
+        is("22: the other corner", x.way(3, 15, 15), 0);
+        x.clear();
+        x.seed(1, 1, 0);
+        is("20: left to the corner", x.walk(2), 4);
+        is("22: the corner", x.way(1, 0, 0), 0);
+        is("22: right", x.way(2, 2, 0), 0);
+        is("22: below", x.way(3, 1, 1), 0);
+    }
+
     private static void walkJust300() {
         GrowingTiles y = new GrowingTiles();
         y.glue(1, 1);
@@ -843,6 +989,10 @@ public final class PromiseTest {
         x.undo(1);
         x.come(3, 6, 4);
         is("23: not FORCED any longer", x.orderly(), 1);
+        GrowingTiles w = square();
+        w.undo(1);
+        w.force(1, 5, 5);
+        is("23: FORCED at first", w.orderly(), NONE);
         x.keep(0);
         x.back(0);
         is("23: behind back()", x.orderly(), NONE);
@@ -894,6 +1044,26 @@ public final class PromiseTest {
         z.piece(0, 0, 0, 0, 3, 0);
         is("23: (b) before (c)", z.orderly(), -3 - 4 * (5 + 16 * 4));
         orderlyOutputs();
+        for (int d = 0; d < 4; d++) {
+            orderlyInputs(d);
+        }
+    }
+
+    /** What came earlier holds a rival at each side, though it is an INPUT and not an OUTPUT. */
+    private static void orderlyInputs(int d) {
+        GrowingTiles x = new GrowingTiles();
+        int[] dx = {0, 1, 0, -1};
+        int[] dy = {-1, 0, 1, 0};
+        int[] sides = {0, 0, 0, 0};
+        x.glue(1, 2);
+        x.piece(1, 1, 1, 1, 1, 0);
+        sides[d] = 1;
+        x.piece(0, sides[0], sides[1], sides[2], sides[3], 0);
+        x.seed(0, 8 + dx[d], 8 + dy[d]);
+        x.come(1, 8, 8);
+        is("23: no rival from " + d, x.orderly(), 1);
+        x.piece(0, sides[0], sides[1], sides[2], sides[3], 0);
+        is("23: a rival from " + d, x.orderly(), -3 - 4 * (8 + 16 * 8));
     }
 
     /** One that only what came later would hold is no rival; one held by a neighbour that is no OUTPUT is. */
@@ -1021,6 +1191,57 @@ public final class PromiseTest {
         is("24: no bars", x.force(0, 9, 9) && x.hold(0, 9, 8) == 1, true);
         is("24: MARKED", x.of(9, 9, 0), 5);
         is("24: ENDED", x.choices(), 0);
+    }
+
+    private static void ruleClearsKinds() {
+        GrowingTiles x = new GrowingTiles();
+        for (int i = 0; i < 20; i++) {
+            x.piece(4, 1, 1, 1, 1, 15);
+            x.piece(2, 1, 1, 1, 1, 65);
+        }
+        x.rule(9, 9, 3, 3, 2, 5);
+        is("24: all come", x.grow(250), 9);
+        is("24: ORDERLY", x.orderly(), 1);
+        x.clear();
+        x.piece(0, 1, 0, 1, 0, 0);
+        x.piece(0, 0, 0, 0, 0, 0);
+        x.piece(4, 0, 0, 0, 0, 1);
+        x.piece(2, 1, 0, 1, 0, 65);
+        x.warmth(1);
+        x.seed(4, 8, 8);
+        is("24: a PIECE where a STOP was", x.may(8, 8, 7), true);
+        is("24: the SEED shows nothing below", x.may(8, 8, 9), false);
+        is("24: no GLUE where there was one", x.may(9, 8, 7), false);
+        is("24: a BLOCK", x.may(11, 8, 7) && x.may(11, 7, 7), true);
+        x.come(8, 8, 7);
+        is("24: no bars where there were", x.may(8, 8, 6), true);
+        is("24: PIECES 0, 1, 8 and a BLOCK by both its PLACES", x.choices(), 5);
+    }
+
+    /** Each SEED of a RULE shows one GLUE to one side. */
+    private static void ruleSeeds() {
+        GrowingTiles x = new GrowingTiles();
+        int[] dx = {0, 1, 0, -1};
+        int[] dy = {-1, 0, 1, 0};
+        int[] sides = {0, 0, 3, 3};
+        x.rule(6, 8, 1, 1, 0, 0);
+        for (int glue = 1; glue <= 6; glue++) {
+            x.piece(0, glue, glue, glue, glue, 0);
+        }
+        for (int seed = 4; seed < 8; seed++) {
+            x.clear();
+            is("24: it is a SEED", x.seed(seed, 8, 8), true);
+            for (int glue = 1; glue <= 6; glue++) {
+                for (int d = 0; d < 4; d++) {
+                    boolean shown = glue == seed - 3 && d == sides[seed - 4];
+                    is("24: SEED " + seed + " GLUE " + glue + " side " + d, x.hold(7 + glue, 8 + dx[d], 8 + dy[d]),
+                        shown ? 1 : 0);
+                }
+            }
+        }
+        x.clear();
+        x.force(12, 8, 8);
+        is("24: GLUE 5 has no STRENGTH", x.hold(12, 8, 9), 0);
     }
 
     private static void row() {
@@ -1181,6 +1402,61 @@ public final class PromiseTest {
         x.back(0);
         is("8: SEEDS alone behind back()", x.seed(0, 7, 7), true);
         is("9: CHOICES behind back()", x.choices(), 8);
+    }
+
+    /** Each number is of another KIND in the IMAGE than it is when back() is called. */
+    private static void backToOtherKinds() {
+        GrowingTiles x = plain();
+        x.piece(4, 1, 1, 1, 1, 1);
+        x.piece(2, 1, 1, 1, 1, 65);
+        x.piece(5, 1, 1, 1, 1, 16 * 7);
+        x.piece(3, 1, 1, 1, 1, 0);
+        x.seed(0, 8, 8);
+        x.come(2, 8, 7);
+        x.keep(1);
+        x.undo(1);
+        x.come(5, 8, 7);
+        x.keep(2);
+        int wide = x.choices();
+        x.clear();
+        x.back(0);
+        x.glue(1, 1);
+        x.glue(2, 1);
+        x.warmth(1);
+        x.piece(0, 2, 2, 2, 2, 0);
+        x.piece(1, 2, 2, 2, 2, 0);
+        x.piece(2, 2, 2, 2, 2, 0);
+        x.piece(0, 2, 2, 2, 2, 0);
+        x.piece(4, 2, 2, 2, 2, 15);
+        x.piece(1, 2, 2, 2, 2, 0);
+        x.seed(1, 8, 8);
+        is("28: CHOICES before", x.choices(), 12);
+        x.back(1);
+        is("28: the STOP bars above", x.may(1, 8, 6), false);
+        is("28: and nowhere else", x.may(1, 7, 7) && x.may(1, 9, 7), true);
+        is("28: a STOP bars its own side", x.may(2, 8, 9), false);
+        is("28: a STOP comes elsewhere", x.may(2, 7, 8), true);
+        is("28: a BLOCK", x.may(3, 7, 9) && x.may(3, 8, 9) && x.may(3, 9, 8) && x.may(3, 6, 8), true);
+        is("28: a BLOCK is barred, too", x.may(3, 8, 6) || x.may(3, 7, 6), false);
+        is("28: KIND", x.of(8, 7, 0), 4);
+        is("28: MARK", x.come(4, 7, 8) ? x.of(7, 8, 1) : NONE, 7);
+        is("28: one MARKED bars nothing", x.may(1, 7, 9), true);
+        x.back(2);
+        is("28: CHOICES of the other", x.choices(), wide);
+        is("28: a WEAK one goes", x.go(8, 7), true);
+        is("28: SEEDS alone then", x.seed(0, 1, 1), true);
+        x.clear();
+        x.back(0);
+        x.glue(1, 2);
+        x.piece(1, 0, 1, 0, 0, 0);
+        x.piece(0, 0, 0, 0, 1, 0);
+        x.piece(0, 0, 0, 0, 1, 0);
+        x.keep(0);
+        x.back(1);
+        x.back(0);
+        x.seed(0, 5, 5);
+        x.come(1, 6, 5);
+        is("28: a rival as before", x.orderly(), -3 - 4 * (6 + 16 * 5));
     }
 
     private static void about() {
