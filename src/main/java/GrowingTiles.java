@@ -406,10 +406,10 @@ public final class GrowingTiles {
         return place / WIDTH - 1;
     }
 
+    /** Whether a cell is none of the rim's. */
     private static boolean isOnSheet(int cell) {
-        int column = columnOf(cell);
-        int line = lineOf(cell);
-        return column >= 0 && column < SIDE && line >= 0 && line < SIDE;
+        int column = cell % WIDTH;
+        return cell >= WIDTH && cell < CELLS - WIDTH && column >= 1 && column <= SIDE;
     }
 
     private static int pieceIn(int code) {
@@ -695,7 +695,7 @@ public final class GrowingTiles {
         }
 
         private void markStale(int cell) {
-            if (cell >= 0 && isOnSheet(cell) && !stale[cell]) {
+            if (isOnSheet(cell) && !stale[cell]) {
                 stale[cell] = true;
                 staleCells[staleCount] = cell;
                 staleCount++;
@@ -832,7 +832,8 @@ public final class GrowingTiles {
 
         private boolean isBarredFromBeside(int place) {
             for (int d = 0; d < 4; d++) {
-                if (bitOf(kit.bars[cells[place + STEP_TO[d]]], d ^ 2) == 1) {
+                int code = cells[place + STEP_TO[d]];
+                if ((kit.bars[code] >>> (d ^ 2) & 1) == 1) {
                     return true;
                 }
             }
@@ -1067,7 +1068,7 @@ public final class GrowingTiles {
             boolean spent = false;
             for (int k = 0; k < ROOM && k < found && !spent; k++) {
                 bringSheetTo(k);
-                spent = !goThrough(k, most);
+                spent = !goThrough(k, most, sheet.countFits());
             }
             bringSheetTo(0);
             largest = sizes[found - 1];
@@ -1116,9 +1117,9 @@ public final class GrowingTiles {
             here = k;
         }
 
-        /** Whether all that come of SHAPE k, which the sheet shows, had room. */
-        private boolean goThrough(int k, int most) {
-            if (sheet.countFits() == 0) {
+        /** Whether all that come of SHAPE k, which the sheet shows with so many CHOICES, had room. */
+        private boolean goThrough(int k, int most, int many) {
+            if (many == 0) {
                 ended++;
                 return true;
             }

@@ -83,14 +83,19 @@ public final class ModelTest {
             glue(glue, random.nextInt(8) == 0 ? 0 : 1 + random.nextInt(1 + random.nextInt(3)));
         }
         warmth(random.nextInt(4) == 0 ? 3 : 1 + random.nextInt(2));
+        int before = random.nextInt(3) == 0 ? 1 + random.nextInt(3) : 0;
+        for (int i = 0; i < before; i++) {
+            drawnPiece(kinds[random.nextInt(kinds.length)]);
+        }
         piece(1, 1, 1 + random.nextInt(glues), 1, 1 + random.nextInt(glues), 0);
+        int seed = model.about(0) - 1;
         int n = 1 + random.nextInt(random.nextInt(6) == 0 ? 39 : 8);
         for (int i = 0; i < n; i++) {
             drawnPiece(kinds[random.nextInt(kinds.length)]);
         }
         int seeds = 1 + random.nextInt(2);
         for (int i = 0; i < seeds; i++) {
-            seed(0, place(), place());
+            seed(seed, place(), place());
         }
         if (random.nextInt(3) == 0) {
             grow(random.nextInt(random.nextInt(8) == 0 ? 251 : 20));

@@ -647,6 +647,21 @@ public final class PromiseTest {
         x.seed(0, 15, 15);
         is("14: in the other corner", x.choices(), 3);
         is("15: a BLOCK's own PLACE", x.choice(1, 1), 13);
+        GrowingTiles y = new GrowingTiles();
+        y.glue(1, 2);
+        for (int i = 0; i < 39; i++) {
+            y.piece(i % 5 == 3 ? 1 : 0, 0, 0, 0, i % 3 == 1 ? 0 : 1, 0);
+        }
+        y.piece(1, 0, 1, 0, 0, 0);
+        y.seed(39, 8, 8);
+        int k = 0;
+        for (int i = 0; i < 39; i++) {
+            if (i % 5 != 3 && i % 3 != 1) {
+                is("15: one of many at a PLACE, from 0 on", y.choice(k, 0), i);
+                k++;
+            }
+        }
+        is("14: as many", y.choices(), k);
     }
 
     private static void drawAndGrow() {
@@ -1216,6 +1231,11 @@ public final class PromiseTest {
         x.come(8, 8, 7);
         is("24: no bars where there were", x.may(8, 8, 6), true);
         is("24: PIECES 0, 1, 8 and a BLOCK by both its PLACES", x.choices(), 5);
+        x.clear();
+        x.rule(6, 8, 1, 1, 1, 1);
+        x.piece(4, 1, 4, 2, 3, 0);
+        is("24: PIECE 3 comes", x.come(3, 0, 14), true);
+        is("24: a STOP is no rival, though its number was", x.orderly(), 1);
     }
 
     /** Each SEED of a RULE shows one GLUE to one side. */
@@ -1457,6 +1477,19 @@ public final class PromiseTest {
         x.seed(0, 5, 5);
         x.come(1, 6, 5);
         is("28: a rival as before", x.orderly(), -3 - 4 * (6 + 16 * 5));
+        GrowingTiles y = new GrowingTiles();
+        y.glue(1, 2);
+        y.piece(1, 0, 1, 0, 0, 0);
+        y.piece(0, 0, 0, 0, 1, 0);
+        y.keep(0);
+        y.piece(4, 0, 0, 0, 1, 0);
+        y.keep(1);
+        y.back(0);
+        y.piece(0, 0, 0, 0, 1, 0);
+        y.back(1);
+        y.seed(0, 5, 5);
+        y.come(1, 6, 5);
+        is("28: a STOP is no rival, though its number was", y.orderly(), 1);
     }
 
     private static void about() {
