@@ -4,7 +4,10 @@ import java.util.Arrays;
 import java.util.Comparator;
 import java.util.Random;
 
-/** Whatever numbers come in whatever order, no call throws, and an object's numbers stay within the document's limits. */
+/**
+ * Whatever numbers come in whatever order, no call throws, not even behind the 512th, whose answers are free; and an
+ * object's numbers stay within the document's limits.
+ */
 public final class AnyCallTest {
     private static final int[] ODD = {Integer.MIN_VALUE, Integer.MIN_VALUE + 1, -65, -64, -2, -1, 0, 1, 2, 3, 15, 16, 17, 39,
         40, 41, 50, 51, 64, 200, 201, 250, 251, 255, 256, 300, 400, 3250, Integer.MAX_VALUE - 1, Integer.MAX_VALUE};
@@ -17,17 +20,27 @@ public final class AnyCallTest {
             Random random = new Random(run);
             GrowingTiles x = new GrowingTiles();
             for (int i = 0; i < 600; i++) {
+                if (i == 500) {
+                    lookAt(due, x);
+                }
                 Method call = calls[random.nextInt(calls.length)];
                 if (java.lang.reflect.Modifier.isPublic(call.getModifiers())) {
                     due.is("run " + run + ": " + call.getName(), answers(x, call, random), true);
                 }
             }
-            due.is("PIECES", x.about(0) >= 0 && x.about(0) <= 40, true);
-            due.is("on THE SHEET", x.about(1) >= 0 && x.about(1) <= 256, true);
-            due.is("to be UNDONE", x.about(4) >= 0 && x.about(4) <= Math.min(200, x.about(3)), true);
-            due.is("SHAPES", x.ways(0) <= 300, true);
         }
         due.end();
+    }
+
+    private static void lookAt(Due due, GrowingTiles x) {
+        int pieces = x.about(0);
+        int onSheet = x.about(1);
+        int steps = x.about(3);
+        int undoable = x.about(4);
+        due.is("29: PIECES", pieces >= 0 && pieces <= 40, true);
+        due.is("29: on THE SHEET", onSheet >= 0 && onSheet <= 256, true);
+        due.is("29: to be UNDONE", undoable >= 0 && undoable <= Math.min(200, steps), true);
+        due.is("21: SHAPES", x.ways(0) <= 300, true);
     }
 
     private static boolean answers(GrowingTiles x, Method call, Random random) throws IllegalAccessException {

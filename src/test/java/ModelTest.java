@@ -4,10 +4,12 @@ import java.util.Random;
 
 /** Many drawn runs of calls, each answered by the class and by PlainModel: the answers must be the same. */
 public final class ModelTest {
-    private static final int RUNS = 1500;
+    private static final int RUNS = 1200;
+    /** More calls than any one round of a run asks, so that the last look has some left. */
+    private static final int MOST_A_ROUND = 200;
 
     private final Random random;
-    private final GrowingTiles tiles = new GrowingTiles();
+    private final Bench tiles = new Bench();
     private final PlainModel model = new PlainModel();
     private final List<String> calls = new ArrayList<>();
     /** What this run's PIECES are: how many GLUES they use, which KINDS, and whether blank sides are seldom. */
@@ -62,19 +64,19 @@ public final class ModelTest {
         } else {
             setUp();
         }
-        int n = 20 + random.nextInt(100);
-        for (int i = 0; i < n && right; i++) {
+        int n = 20 + random.nextInt(200);
+        for (int i = 0; i < n && right && tiles.callsLeft() > MOST_A_ROUND; i++) {
             anyCall();
             if (model.about(1) == 0 && random.nextInt(3) == 0) {
                 warmth(1 + random.nextInt(2));
                 seed(random.nextInt(8), 3 + random.nextInt(10), 3 + random.nextInt(10));
             }
-            if (random.nextInt(25) == 0) {
-                lookAtAll();
+            if (random.nextInt(40) == 0) {
+                lookAround(10);
             }
         }
         if (right) {
-            lookAtAll();
+            lookAround(256);
         }
     }
 
@@ -109,20 +111,12 @@ public final class ModelTest {
 
     /** A PLACE, as x + 32 * y with both one more, that is mostly at something that lies there. */
     private int near() {
-        List<Integer> taken = new ArrayList<>();
-        for (int y = 0; y < 16; y++) {
-            for (int x = 0; x < 16; x++) {
-                if (model.at(x, y) != PlainModel.NONE) {
-                    taken.add(x + 1 + 32 * (y + 1));
-                }
-            }
-        }
-        if (taken.isEmpty() || random.nextInt(5) == 0) {
+        if (model.about(1) == 0 || random.nextInt(5) == 0) {
             return place() + 1 + 32 * (place() + 1);
         }
         int[] steps = {0, 1, -1, -2, 32, -32, 31, -33};
-        int one = taken.get(random.nextInt(taken.size())) + steps[random.nextInt(steps.length)];
-        return Math.max(one, 0);
+        int one = model.ownPlace(random.nextInt(model.about(1)));
+        return Math.max(one % 16 + 1 + 32 * (one / 16 + 1) + steps[random.nextInt(steps.length)], 0);
     }
 
     private int face() {
@@ -199,17 +193,19 @@ public final class ModelTest {
         return n == 0 || random.nextInt(12) == 0 ? some(n) : random.nextInt(n);
     }
 
-    private void lookAtAll() {
-        for (int y = -1; y <= 16; y++) {
-            for (int x = -1; x <= 16; x++) {
-                same("at(" + x + ", " + y + ")", tiles.at(x, y), model.at(x, y));
-                for (int what = 0; what < 4; what++) {
-                    of(x, y, what);
-                }
-            }
-        }
+    /** Looks at so many drawn PLACES, or fewer if the object may not be asked so often any more. */
+    private void lookAround(int places) {
         about();
         same("choices()", tiles.choices(), model.choices());
+        for (int i = 0; i < places && tiles.callsLeft() >= 5; i++) {
+            int place = near();
+            int x = place % 32 - 1;
+            int y = place / 32 - 1;
+            same("at(" + x + ", " + y + ")", tiles.at(x, y), model.at(x, y));
+            for (int what = 0; what < 4; what++) {
+                of(x, y, what);
+            }
+        }
     }
 
     private void glue(int glue, int strength) {
@@ -320,10 +316,11 @@ public final class ModelTest {
 
     private void way() {
         int k = someOf(Math.max(0, model.ways(0)));
-        for (int y = -1; y <= 16; y++) {
-            for (int x = -1; x <= 16; x++) {
-                same("way(" + k + ", " + x + ", " + y + ")", tiles.way(k, x, y), model.way(k, x, y));
-            }
+        for (int i = 0; i < 25; i++) {
+            int place = near();
+            int x = place % 32 - 1;
+            int y = place / 32 - 1;
+            same("way(" + k + ", " + x + ", " + y + ")", tiles.way(k, x, y), model.way(k, x, y));
         }
     }
 

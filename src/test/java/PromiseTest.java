@@ -64,8 +64,8 @@ public final class PromiseTest {
     }
 
     /** GLUE 1 with STRENGTH 1, THE WARMTH 1, SEED 0 and PIECE 1 with GLUE 1 all around. */
-    private static GrowingTiles plain() {
-        GrowingTiles x = new GrowingTiles();
+    private static Bench plain() {
+        Bench x = new Bench();
         x.glue(1, 1);
         x.warmth(1);
         x.piece(1, 1, 1, 1, 1, 0);
@@ -74,7 +74,7 @@ public final class PromiseTest {
     }
 
     private static void newObject() {
-        GrowingTiles x = new GrowingTiles();
+        Bench x = new Bench();
         int[] abouts = {0, 0, 2, 0, 0, 0};
         for (int what = 0; what < 6; what++) {
             is("1: about(" + what + ")", x.about(what), abouts[what]);
@@ -95,7 +95,7 @@ public final class PromiseTest {
         x.piece(1, 1, 1, 1, 1, 0);
         x.seed(0, 3, 3);
         is("1: GLUES without STRENGTH", x.hold(0, 3, 4), 0);
-        GrowingTiles y = new GrowingTiles();
+        Bench y = new Bench();
         y.draw(99);
         y.back(1);
         y.glue(1, 1);
@@ -104,7 +104,7 @@ public final class PromiseTest {
         y.piece(0, 1, 1, 1, 1, 0);
         y.seed(0, 8, 8);
         y.grow(12);
-        GrowingTiles z = plain();
+        Bench z = plain();
         z.seed(0, 8, 8);
         z.grow(12);
         for (int place = 0; place < 256; place++) {
@@ -113,7 +113,7 @@ public final class PromiseTest {
     }
 
     private static void glue() {
-        GrowingTiles x = plain();
+        Bench x = plain();
         is("2: glue(50, 3)", x.glue(50, 3), true);
         is("2: glue(50, 0)", x.glue(50, 0), true);
         is("2: glue(51, 1)", x.glue(51, 1), false);
@@ -132,7 +132,7 @@ public final class PromiseTest {
     }
 
     private static void piece() {
-        GrowingTiles x = new GrowingTiles();
+        Bench x = new Bench();
         int[][] can = {
             {0, 50, 0, 0, 0, 0}, {1, 0, 50, 0, 0, 0}, {3, 0, 0, 50, 0, 0}, {0, 0, 0, 0, 50, 0}, {2, 0, 0, 0, 0, 0},
             {2, 1, 2, 3, 4, 50}, {2, 1, 2, 3, 4, 3200}, {2, 1, 2, 3, 4, 3250}, {2, 0, 0, 0, 0, 64}, {4, 0, 0, 0, 0, 0},
@@ -158,10 +158,10 @@ public final class PromiseTest {
     }
 
     private static void pieceMostly40() {
-        GrowingTiles x = plain();
+        Bench x = plain();
         x.seed(0, 5, 5);
         is("3: CHOICES before", x.choices(), 4);
-        GrowingTiles y = plain();
+        Bench y = plain();
         y.seed(0, 5, 5);
         is("3: CHOICES before", y.choices(), 4);
         y.piece(0, 1, 0, 0, 0, 0);
@@ -181,7 +181,7 @@ public final class PromiseTest {
     }
 
     private static void feed() {
-        GrowingTiles x = new GrowingTiles();
+        Bench x = new Bench();
         for (int i = 1; i <= 20; i++) {
             is("4: feed " + i, x.feed(i, -1, 0, HIGH, LOW), 20 * i);
         }
@@ -195,7 +195,7 @@ public final class PromiseTest {
     }
 
     private static void set() {
-        GrowingTiles x = new GrowingTiles();
+        Bench x = new Bench();
         x.glue(1, 1);
         x.glue(50, 2);
         x.warmth(1);
@@ -221,7 +221,7 @@ public final class PromiseTest {
     }
 
     private static void setEnds() {
-        GrowingTiles x = new GrowingTiles();
+        Bench x = new Bench();
         x.feed(0, 0, 0x06000000, 0, 0);
         x.feed(0, 0, 0, 0, 0);
         is("5: until the first that can't be", x.set(40), 1);
@@ -247,7 +247,7 @@ public final class PromiseTest {
         int[] dx = {0, 1, 0, -1};
         int[] dy = {-1, 0, 1, 0};
         for (int d = 0; d < 4; d++) {
-            GrowingTiles y = plain();
+            Bench y = plain();
             y.feed(d < 3 ? 1 << 8 * (2 - d) : 0, d < 3 ? 0 : 1 << 24, 0, 0, 0);
             is("5: one PIECE", y.set(8), 1);
             y.seed(0, 8, 8);
@@ -258,7 +258,7 @@ public final class PromiseTest {
     }
 
     private static void warmth() {
-        GrowingTiles x = plain();
+        Bench x = plain();
         is("6: warmth(0)", x.warmth(0), false);
         is("6: warmth(4)", x.warmth(4), false);
         is("6: warmth(low)", x.warmth(LOW), false);
@@ -275,7 +275,7 @@ public final class PromiseTest {
     }
 
     private static void clear() {
-        GrowingTiles x = plain();
+        Bench x = plain();
         x.piece(2, 1, 1, 1, 1, 0);
         x.seed(0, 5, 5);
         x.come(2, 6, 5);
@@ -295,7 +295,7 @@ public final class PromiseTest {
     }
 
     private static void seed() {
-        GrowingTiles x = plain();
+        Bench x = plain();
         int[][] wrong = {{1, 5, 5}, {2, 5, 5}, {-1, 5, 5}, {LOW, 5, 5}, {0, -1, 5}, {0, 16, 5}, {0, 5, -1}, {0, 5, 16},
             {0, LOW, 5}, {0, 5, HIGH}};
         for (int[] a : wrong) {
@@ -313,7 +313,7 @@ public final class PromiseTest {
     }
 
     private static void may() {
-        GrowingTiles x = plain();
+        Bench x = plain();
         x.glue(2, 2);
         x.piece(0, 2, 2, 2, 2, 0);
         is("9: nothing there", x.may(1, 5, 5), false);
@@ -341,7 +341,7 @@ public final class PromiseTest {
 
     private static void mayByBars() {
         for (int d = 0; d < 4; d++) {
-            GrowingTiles x = plain();
+            Bench x = plain();
             int[] dx = {0, 1, 0, -1};
             int[] dy = {-1, 0, 1, 0};
             x.piece(4, 1, 1, 1, 1, 1 << d);
@@ -371,7 +371,7 @@ public final class PromiseTest {
     }
 
     private static void mayBlock() {
-        GrowingTiles x = new GrowingTiles();
+        Bench x = new Bench();
         for (int glue = 1; glue <= 6; glue++) {
             x.glue(glue, 1);
         }
@@ -407,7 +407,7 @@ public final class PromiseTest {
     }
 
     private static void mayAtWarmth3() {
-        GrowingTiles x = plain();
+        Bench x = plain();
         x.clear();
         x.glue(2, 2);
         x.glue(3, 3);
@@ -440,7 +440,7 @@ public final class PromiseTest {
 
     /** Asked before and behind each STEP: what may come is never what might have come earlier. */
     private static void mayAsThingsChange() {
-        GrowingTiles x = plain();
+        Bench x = plain();
         x.piece(2, 1, 1, 1, 1, 65);
         int[][] spots = {{8, 9}, {7, 9}, {8, 7}, {7, 7}, {9, 8}, {6, 8}};
         for (int round = 0; round < 2; round++) {
@@ -468,7 +468,7 @@ public final class PromiseTest {
     }
 
     private static void hold() {
-        GrowingTiles x = plain();
+        Bench x = plain();
         x.glue(2, 3);
         x.piece(0, 0, 2, 0, 2, 0);
         x.piece(1, 0, 2, 0, 2, 0);
@@ -494,7 +494,7 @@ public final class PromiseTest {
     }
 
     private static void come() {
-        GrowingTiles x = plain();
+        Bench x = plain();
         x.seed(0, 5, 5);
         is("11: a PLACE without HOLD", x.come(1, 7, 5), false);
         is("11: a SEED", x.come(0, 6, 5), false);
@@ -512,7 +512,7 @@ public final class PromiseTest {
     }
 
     private static void go() {
-        GrowingTiles x = plain();
+        Bench x = plain();
         x.piece(3, 1, 1, 1, 1, 0);
         x.seed(0, 5, 5);
         x.come(2, 6, 5);
@@ -541,7 +541,7 @@ public final class PromiseTest {
     }
 
     private static void goOfWarmth2() {
-        GrowingTiles x = new GrowingTiles();
+        Bench x = new Bench();
         x.glue(1, 1);
         x.glue(2, 2);
         x.piece(1, 0, 2, 1, 0, 0);
@@ -567,7 +567,7 @@ public final class PromiseTest {
     }
 
     private static void goHangsByBlocks() {
-        GrowingTiles x = plain();
+        Bench x = plain();
         x.piece(3, 1, 1, 1, 1, 0);
         x.piece(2, 0, 1, 0, 1, 0);
         x.piece(0, 0, 0, 0, 1, 0);
@@ -600,7 +600,7 @@ public final class PromiseTest {
     }
 
     private static void force() {
-        GrowingTiles x = plain();
+        Bench x = plain();
         x.piece(2, 0, 0, 0, 0, 0);
         x.piece(4, 0, 0, 0, 0, 15);
         is("13: a SEED", x.force(0, 5, 5), false);
@@ -622,7 +622,7 @@ public final class PromiseTest {
     }
 
     private static void choicesAndChoice() {
-        GrowingTiles x = plain();
+        Bench x = plain();
         x.piece(2, 0, 1, 0, 1, 0);
         is("14: none", x.choices(), 0);
         is("15: none", x.choice(0, 0), NONE);
@@ -647,7 +647,7 @@ public final class PromiseTest {
         x.seed(0, 15, 15);
         is("14: in the other corner", x.choices(), 3);
         is("15: a BLOCK's own PLACE", x.choice(1, 1), 13);
-        GrowingTiles y = new GrowingTiles();
+        Bench y = new Bench();
         y.glue(1, 2);
         for (int i = 0; i < 39; i++) {
             y.piece(i % 5 == 3 ? 1 : 0, 0, 0, 0, i % 3 == 1 ? 0 : 1, 0);
@@ -665,7 +665,7 @@ public final class PromiseTest {
     }
 
     private static void drawAndGrow() {
-        GrowingTiles x = plain();
+        Bench x = plain();
         x.seed(0, 8, 8);
         x.draw(12345);
         long s = 12345;
@@ -676,16 +676,16 @@ public final class PromiseTest {
             is("17: grow(1)", x.grow(1), 1);
             is("16, 17: what was drawn", x.of(place % 16, place / 16, 3), i + 1);
         }
-        GrowingTiles y = plain();
+        Bench y = plain();
         y.seed(0, 8, 8);
         y.draw(12345);
         is("17: grow(30)", y.grow(30), 30);
         for (int place = 0; place < 256; place++) {
             is("17: the same", y.of(place % 16, place / 16, 3), x.of(place % 16, place / 16, 3));
         }
-        GrowingTiles z = plain();
+        Bench z = plain();
         z.seed(0, 8, 8);
-        GrowingTiles w = plain();
+        Bench w = plain();
         w.seed(0, 8, 8);
         w.draw(0);
         z.grow(9);
@@ -696,7 +696,7 @@ public final class PromiseTest {
     }
 
     private static void growLimits() {
-        GrowingTiles x = plain();
+        Bench x = plain();
         is("17: nothing there", x.grow(250), 0);
         x.seed(0, 8, 8);
         is("17: grow(-1)", x.grow(-1), NONE);
@@ -708,12 +708,12 @@ public final class PromiseTest {
         is("17: until ENDED", x.grow(250), 5);
         is("17: full", x.about(1), 256);
         is("17: ENDED", x.grow(1), 0);
-        GrowingTiles y = plain();
+        Bench y = plain();
         y.draw(3);
         is("17: nothing to draw of", y.grow(9), 0);
         y.seed(0, 8, 8);
         y.grow(9);
-        GrowingTiles z = plain();
+        Bench z = plain();
         z.draw(3);
         z.seed(0, 8, 8);
         z.grow(9);
@@ -724,7 +724,7 @@ public final class PromiseTest {
     }
 
     private static void at() {
-        GrowingTiles x = plain();
+        Bench x = plain();
         x.piece(2, 0, 0, 0, 1, 0);
         x.seed(0, 0, 0);
         x.come(2, 1, 0);
@@ -738,7 +738,7 @@ public final class PromiseTest {
     }
 
     private static void of() {
-        GrowingTiles x = plain();
+        Bench x = plain();
         x.piece(2, 0, 1, 0, 1, 0);
         x.piece(5, 0, 0, 0, 1, 16 * 15 + 1);
         x.piece(4, 0, 0, 0, 0, 3);
@@ -764,7 +764,7 @@ public final class PromiseTest {
     }
 
     private static void ofSteps() {
-        GrowingTiles x = plain();
+        Bench x = plain();
         x.piece(3, 1, 1, 1, 1, 0);
         x.seed(0, 5, 5);
         x.come(2, 6, 5);
@@ -792,7 +792,7 @@ public final class PromiseTest {
     }
 
     private static void walk() {
-        GrowingTiles x = plain();
+        Bench x = plain();
         is("20: nothing there", x.walk(1), 1);
         is("21: nothing is ENDED", x.ways(1), 1);
         is("21: and has no PIECES", x.ways(3), 0);
@@ -815,7 +815,7 @@ public final class PromiseTest {
     }
 
     private static void walkBlocks() {
-        GrowingTiles x = new GrowingTiles();
+        Bench x = new Bench();
         x.glue(1, 2);
         x.piece(1, 0, 1, 0, 0, 0);
         x.piece(2, 0, 1, 0, 1, 0);
@@ -833,7 +833,7 @@ public final class PromiseTest {
     }
 
     private static void walkWithoutGoing() {
-        GrowingTiles x = new GrowingTiles();
+        Bench x = new Bench();
         x.glue(1, 2);
         x.piece(1, 0, 1, 0, 0, 0);
         x.piece(3, 0, 0, 0, 1, 0);
@@ -845,7 +845,7 @@ public final class PromiseTest {
     }
 
     private static void walkSpent() {
-        GrowingTiles x = plain();
+        Bench x = plain();
         x.seed(0, 8, 8);
         is("20: SPENT", x.walk(40), -2);
         is("21: 300 SHAPES", x.ways(0), 300);
@@ -854,7 +854,7 @@ public final class PromiseTest {
         is("22: way(299)", x.way(299, 8, 8), 0);
         is("22: way(300)", x.way(300, 8, 8), NONE);
         is("20: as it was", x.about(1), 1);
-        GrowingTiles y = new GrowingTiles();
+        Bench y = new Bench();
         y.glue(1, 1);
         y.glue(2, 2);
         y.warmth(1);
@@ -880,7 +880,7 @@ public final class PromiseTest {
     }
 
     private static void walkFromCorners() {
-        GrowingTiles x = new GrowingTiles();
+        Bench x = new Bench();
         x.glue(1, 1);
         x.warmth(1);
         x.piece(0, 1, 1, 1, 1, 0);
@@ -901,7 +901,7 @@ public final class PromiseTest {
     }
 
     private static void walkJust300() {
-        GrowingTiles y = new GrowingTiles();
+        Bench y = new Bench();
         y.glue(1, 1);
         y.glue(2, 2);
         y.warmth(1);
@@ -922,7 +922,7 @@ public final class PromiseTest {
     }
 
     private static void walkLimits() {
-        GrowingTiles x = plain();
+        Bench x = plain();
         x.seed(0, 5, 5);
         x.come(1, 6, 5);
         is("20: walk(0)", x.walk(0), NONE);
@@ -943,7 +943,7 @@ public final class PromiseTest {
     }
 
     private static void ways() {
-        GrowingTiles x = plain();
+        Bench x = plain();
         for (int what = -1; what < 5; what++) {
             is("21: ways(" + what + ") without", x.ways(what), NONE);
         }
@@ -957,7 +957,7 @@ public final class PromiseTest {
     }
 
     private static void wayStays() {
-        GrowingTiles x = plain();
+        Bench x = plain();
         x.piece(2, 0, 0, 0, 1, 0);
         is("22: without", x.way(0, 0, 0), NONE);
         x.seed(0, 5, 5);
@@ -980,8 +980,8 @@ public final class PromiseTest {
     }
 
     /** GLUES 1 and 2 with STRENGTH 1, 3 with 2; a SEED and what grows to a square of four from it. */
-    private static GrowingTiles square() {
-        GrowingTiles x = new GrowingTiles();
+    private static Bench square() {
+        Bench x = new Bench();
         x.glue(1, 1);
         x.glue(2, 1);
         x.glue(3, 2);
@@ -994,7 +994,7 @@ public final class PromiseTest {
     }
 
     private static void orderlyAsked() {
-        GrowingTiles x = square();
+        Bench x = square();
         is("23: not ENDED", x.orderly(), -4);
         x.grow(9);
         is("23: ORDERLY", x.orderly(), 1);
@@ -1004,7 +1004,7 @@ public final class PromiseTest {
         x.undo(1);
         x.come(3, 6, 4);
         is("23: not FORCED any longer", x.orderly(), 1);
-        GrowingTiles w = square();
+        Bench w = square();
         w.undo(1);
         w.force(1, 5, 5);
         is("23: FORCED at first", w.orderly(), NONE);
@@ -1017,13 +1017,13 @@ public final class PromiseTest {
         is("23: behind back() to a clear SHEET", x.orderly(), 1);
         int[][] others = {{2, 0}, {3, 0}, {4, 0}, {4, 1}, {5, 17}, {5, 16}};
         for (int[] other : others) {
-            GrowingTiles y = square();
+            Bench y = square();
             y.piece(other[0], 0, 3, 0, 0, other[1]);
             y.piece(other[0], 0, 0, 0, 3, other[1]);
             is("23: come", y.come(5, 6, 5), true);
             is("23: KIND " + other[0] + " with " + other[1], y.orderly() == NONE, other[1] != 16);
         }
-        GrowingTiles z = square();
+        Bench z = square();
         z.piece(3, 0, 0, 0, 3, 0);
         z.come(4, 6, 5);
         z.go(6, 5);
@@ -1033,7 +1033,7 @@ public final class PromiseTest {
     }
 
     private static void orderlyFaults() {
-        GrowingTiles x = plain();
+        Bench x = plain();
         x.seed(0, 5, 5);
         x.come(1, 6, 5);
         x.come(1, 5, 4);
@@ -1047,13 +1047,13 @@ public final class PromiseTest {
         is("23: (a) before (b)", x.orderly(), -2 - 4 * (6 + 16 * 4));
         int[][] rivals = {{0, 0, 1}, {1, 0, 0}, {2, 0, 0}, {3, 0, 1}, {4, 0, 0}, {5, 16, 1}, {5, 31, 1}};
         for (int[] rival : rivals) {
-            GrowingTiles y = square();
+            Bench y = square();
             y.grow(9);
             is("23: ORDERLY", y.orderly(), 1);
             y.piece(rival[0], 0, 0, 2, 1, rival[1]);
             is("23: (b) with KIND " + rival[0], y.orderly(), rival[2] == 1 ? -3 - 4 * (6 + 16 * 4) : 1);
         }
-        GrowingTiles z = square();
+        Bench z = square();
         z.come(1, 5, 4);
         z.piece(0, 0, 0, 3, 0, 0);
         z.piece(0, 0, 0, 0, 3, 0);
@@ -1066,7 +1066,7 @@ public final class PromiseTest {
 
     /** What came earlier holds a rival at each side, though it is an INPUT and not an OUTPUT. */
     private static void orderlyInputs(int d) {
-        GrowingTiles x = new GrowingTiles();
+        Bench x = new Bench();
         int[] dx = {0, 1, 0, -1};
         int[] dy = {-1, 0, 1, 0};
         int[] sides = {0, 0, 0, 0};
@@ -1083,7 +1083,7 @@ public final class PromiseTest {
 
     /** One that only what came later would hold is no rival; one held by a neighbour that is no OUTPUT is. */
     private static void orderlyOutputs() {
-        GrowingTiles x = square();
+        Bench x = square();
         x.piece(0, 0, 1, 2, 0, 0);
         x.come(1, 5, 4);
         x.come(2, 6, 5);
@@ -1091,7 +1091,7 @@ public final class PromiseTest {
         is("23: held by OUTPUTS only", x.orderly(), 1);
         x.piece(0, 0, 0, 3, 0, 0);
         is("23: a rival", x.orderly(), -3 - 4 * (5 + 16 * 4));
-        GrowingTiles y = new GrowingTiles();
+        Bench y = new Bench();
         y.glue(1, 1);
         y.glue(2, 1);
         y.warmth(1);
@@ -1109,7 +1109,7 @@ public final class PromiseTest {
     }
 
     private static void orderlyLongRuns() {
-        GrowingTiles x = new GrowingTiles();
+        Bench x = new Bench();
         x.rule(15, 15, 13, 13, 0, 0);
         is("23: 26 + 169 STEPS", x.grow(250), 169);
         is("23: 195 STEPS", x.orderly(), 1);
@@ -1133,7 +1133,7 @@ public final class PromiseTest {
     }
 
     private static void rule() {
-        GrowingTiles x = new GrowingTiles();
+        Bench x = new Bench();
         int[][] wrong = {{-1, 0, 1, 1}, {16, 0, 1, 1}, {0, -1, 1, 1}, {0, 16, 1, 1}, {0, 0, 0, 1}, {0, 0, 16, 1},
             {0, 0, 1, 0}, {0, 0, 1, 16}, {LOW, HIGH, LOW, HIGH}};
         for (int[] a : wrong) {
@@ -1162,7 +1162,7 @@ public final class PromiseTest {
     }
 
     private static void ruleByHand(int f, int g, int c, int r, int row, int column) {
-        GrowingTiles x = new GrowingTiles();
+        Bench x = new Bench();
         String name = "24: rule(" + f + ", " + g + ", " + c + ", " + r + ", " + row + ", " + column + ")";
         is(name, x.rule(f, g, c, r, row, column), c + r);
         is(name + " grows", x.grow(250), c * r);
@@ -1181,7 +1181,7 @@ public final class PromiseTest {
     }
 
     private static void ruleClears() {
-        GrowingTiles x = plain();
+        Bench x = plain();
         x.glue(7, 3);
         x.piece(4, 7, 7, 7, 7, 15);
         x.piece(2, 7, 7, 7, 7, 7);
@@ -1209,7 +1209,7 @@ public final class PromiseTest {
     }
 
     private static void ruleClearsKinds() {
-        GrowingTiles x = new GrowingTiles();
+        Bench x = new Bench();
         for (int i = 0; i < 20; i++) {
             x.piece(4, 1, 1, 1, 1, 15);
             x.piece(2, 1, 1, 1, 1, 65);
@@ -1240,7 +1240,7 @@ public final class PromiseTest {
 
     /** Each SEED of a RULE shows one GLUE to one side. */
     private static void ruleSeeds() {
-        GrowingTiles x = new GrowingTiles();
+        Bench x = new Bench();
         int[] dx = {0, 1, 0, -1};
         int[] dy = {-1, 0, 1, 0};
         int[] sides = {0, 0, 3, 3};
@@ -1265,7 +1265,7 @@ public final class PromiseTest {
     }
 
     private static void row() {
-        GrowingTiles x = new GrowingTiles();
+        Bench x = new Bench();
         x.piece(5, 0, 0, 0, 0, 16);
         x.piece(5, 0, 0, 0, 0, 32 + 15);
         x.piece(5, 0, 0, 0, 0, 48);
@@ -1294,7 +1294,7 @@ public final class PromiseTest {
     }
 
     private static void undo() {
-        GrowingTiles x = plain();
+        Bench x = plain();
         x.piece(2, 1, 1, 1, 1, 0);
         x.piece(3, 1, 1, 1, 1, 0);
         is("26: undo(0)", x.undo(0), 0);
@@ -1330,7 +1330,7 @@ public final class PromiseTest {
     }
 
     private static void undoLast200() {
-        GrowingTiles x = plain();
+        Bench x = plain();
         x.seed(0, 8, 8);
         x.grow(199);
         is("26: 200 can be", x.about(4), 200);
@@ -1356,7 +1356,7 @@ public final class PromiseTest {
     }
 
     private static void keepAndBack() {
-        GrowingTiles x = plain();
+        Bench x = plain();
         for (int k : new int[] {-1, 3, LOW, HIGH}) {
             is("27: keep(" + k + ")", x.keep(k), false);
             is("28: back(" + k + ")", x.back(k), false);
@@ -1368,8 +1368,8 @@ public final class PromiseTest {
         x.draw(77);
         is("27: keep(1)", x.keep(1), true);
         int grown = x.grow(20);
-        int[] first = new int[256];
-        for (int place = 0; place < 256; place++) {
+        int[] first = new int[192];
+        for (int place = 0; place < first.length; place++) {
             first[place] = x.at(place % 16, place / 16);
         }
         x.clear();
@@ -1386,7 +1386,7 @@ public final class PromiseTest {
         is("28: about(1)", x.about(1), 2);
         is("28: not SEEDS alone", x.seed(0, 1, 1), false);
         is("28: s", x.grow(20), grown);
-        for (int place = 0; place < 256; place++) {
+        for (int place = 0; place < first.length; place++) {
             is("28: as it grew before", x.at(place % 16, place / 16), first[place]);
         }
         x.back(2);
@@ -1400,7 +1400,7 @@ public final class PromiseTest {
     }
 
     private static void backAndSteps() {
-        GrowingTiles x = plain();
+        Bench x = plain();
         x.seed(0, 5, 5);
         x.come(1, 6, 5);
         x.keep(0);
@@ -1426,7 +1426,7 @@ public final class PromiseTest {
 
     /** Each number is of another KIND in the IMAGE than it is when back() is called. */
     private static void backToOtherKinds() {
-        GrowingTiles x = plain();
+        Bench x = plain();
         x.piece(4, 1, 1, 1, 1, 1);
         x.piece(2, 1, 1, 1, 1, 65);
         x.piece(5, 1, 1, 1, 1, 16 * 7);
@@ -1477,7 +1477,7 @@ public final class PromiseTest {
         x.seed(0, 5, 5);
         x.come(1, 6, 5);
         is("28: a rival as before", x.orderly(), -3 - 4 * (6 + 16 * 5));
-        GrowingTiles y = new GrowingTiles();
+        Bench y = new Bench();
         y.glue(1, 2);
         y.piece(1, 0, 1, 0, 0, 0);
         y.piece(0, 0, 0, 0, 1, 0);
@@ -1493,7 +1493,7 @@ public final class PromiseTest {
     }
 
     private static void about() {
-        GrowingTiles x = plain();
+        Bench x = plain();
         x.piece(2, 1, 1, 1, 1, 0);
         x.seed(0, 5, 5);
         x.come(2, 6, 5);
