@@ -36,10 +36,12 @@ public final class EdgesOfGrowingTest {
         test.goByHold();
         test.goHangsTogether();
         test.goOverBlocks();
+        test.goOfFullSheet();
         test.forceRefused();
         test.forceWhatever();
         test.choicesNoneAndMany();
         test.choiceOrder();
+        test.choiceFromPieceZero();
         test.choiceRefused();
         test.drawOfAnyLong();
         test.growLimits();
@@ -567,6 +569,21 @@ public final class EdgesOfGrowingTest {
         is("12: two BLOCKS side by side whose GLUES are not the same", x.go(3, 3), false);
     }
 
+    /** 255 others that hang together, or all but one. */
+    private void goOfFullSheet() {
+        for (int odd = 0; odd < 2; odd++) {
+            Bench x = Benches.plain();
+            x.piece(3, 0, 0, 0, 1, 0);
+            x.piece(0, 0, 0, 0, 0, 0);
+            for (int place = 0; place < 255; place++) {
+                x.force(odd == 1 && place == 0 ? 3 : 1, place % 16, place / 16);
+            }
+            is("11: the last PLACE", x.come(2, 15, 15), true);
+            is("29: all are there", x.about(1), 256);
+            is("12: it goes, unless one of 255 hangs by nothing", x.go(15, 15), odd == 0);
+        }
+    }
+
     private void forceRefused() {
         for (int[] place : BEYOND) {
             grown.refused("13: beyond: " + at(place), x -> x.force(1, place[0], place[1]));
@@ -657,6 +674,25 @@ public final class EdgesOfGrowingTest {
             lastX = px;
             lastPiece = piece;
         }
+    }
+
+    /** All 40 numbers but the SEED's: also 0, which is the first. */
+    private void choiceFromPieceZero() {
+        Bench x = new Bench();
+        x.glue(1, 2);
+        for (int i = 0; i < 39; i++) {
+            x.piece(0, 0, 0, 0, 1, 0);
+        }
+        x.piece(1, 0, 1, 0, 0, 0);
+        x.seed(39, 0, 0);
+        is("14: 39 at one PLACE", x.choices(), 39);
+        for (int k = 0; k < 39; k++) {
+            is("15: the PIECE of CHOICE " + k, x.choice(k, 0), k);
+        }
+        is("15: no CHOICE 39", x.choice(39, 0), NONE);
+        is("20: one SHAPE for each, and what was there", x.walk(40), 40);
+        is("22: the first has PIECE 0", x.way(1, 1, 0), 0);
+        is("22: the last has PIECE 38", x.way(39, 1, 0), 38);
     }
 
     private void choiceRefused() {

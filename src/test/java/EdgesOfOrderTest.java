@@ -31,6 +31,8 @@ public final class EdgesOfOrderTest {
         test.rulePieces();
         test.ruleOfAllRules();
         test.ruleClears();
+        test.ruleGlues();
+        test.ruleForgetsKinds();
         test.rowRefused();
         test.rowMarks();
         DUE.end();
@@ -586,6 +588,51 @@ public final class EdgesOfOrderTest {
             x.rule(6, 8, 4, 3, 5, 7);
             return x;
         }));
+    }
+
+    /** GLUES 1 to 4 have STRENGTH 1, all others none, and 0 is still no GLUE. */
+    private void ruleGlues() {
+        for (int half = 0; half < 2; half++) {
+            Bench x = new Bench();
+            for (int glue = 1; glue <= 50; glue++) {
+                x.glue(glue, 3);
+            }
+            x.rule(6, 8, 4, 3, 5, 7);
+            for (int px = 0; px < 4; px++) {
+                is("24: SEEDS of a row do not HOLD", x.of(px, 15, 2), 0);
+            }
+            is("24: nor those of a column", x.of(4, 13, 2), 0);
+            for (int glue = 1 + 25 * half; glue <= 25 + 25 * half; glue++) {
+                x.clear();
+                int piece = x.piece(0, glue, 0, glue, 0, 0);
+                x.force(piece, 8, 8);
+                is("24: STRENGTH of GLUE " + glue, x.hold(piece, 8, 9), glue <= 4 ? 1 : 0);
+            }
+        }
+    }
+
+    /** 40 PIECES of one KIND before: nothing of what they showed or barred is left. */
+    private void ruleForgetsKinds() {
+        for (int kind = 0; kind <= 5; kind++) {
+            Bench x = new Bench();
+            for (int i = 0; i < 40; i++) {
+                x.piece(kind, 2, 4 - i % 2, 2 - i / 2 % 2, 4, kind == 2 ? 65 : kind == 4 ? 15 : kind == 5 ? 31 : 0);
+            }
+            x.rule(9, 9, 3, 3, 2, 5);
+            is("14: one CHOICE, behind KIND " + kind, x.choices(), 1);
+            is("17: all come", x.grow(250), 9);
+            is("23: ORDERLY", x.orderly(), 1);
+            int stop = x.piece(4, 1, 3, 1, 3, 0);
+            int other = x.piece(4, 2, 4, 2, 4, 0);
+            is("23: STOPS are no rivals", stop == 8 && other == 9 && x.orderly() == 1, true);
+            x.clear();
+            x.warmth(1);
+            int plain = x.piece(0, 1, 1, 1, 1, 0);
+            x.force(plain, 8, 8);
+            for (int d = 0; d < 4; d++) {
+                is("9: nothing is barred at " + d, x.may(plain, 8 + Benches.DX[d], 8 + Benches.DY[d]), true);
+            }
+        }
     }
 
     private void rowRefused() {

@@ -531,9 +531,11 @@ public final class EdgesOfPiecesTest {
         is("5: and is read off", x.set(8), 1);
         is("19: MARK 7", x.force(1, 3, 3) ? x.of(3, 3, 1) : NONE, 7);
         Bench y = Benches.grown();
+        int before = y.choices();
         is("5: while others lie there", y.set(8), 1);
         is("29: nothing else changed", y.about(1), 5);
-        is("14: it may come", y.may(7, 4, 4), true);
+        is("9: it may come", y.may(7, 4, 4), true);
+        is("14: the CHOICES are more", y.choices() > before, true);
     }
 
     private void warmthLimits() {

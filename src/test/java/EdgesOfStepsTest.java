@@ -21,6 +21,8 @@ public final class EdgesOfStepsTest {
         test.keepOneImage();
         test.keepIsNotChangedLater();
         test.backIsAllOfAnImage();
+        test.backToHighestBlock();
+        test.backToOtherKinds();
         test.backForgetsSteps();
         test.backLeavesTapeAndWalk();
         test.aboutRefused();
@@ -307,6 +309,75 @@ public final class EdgesOfStepsTest {
         is("29: 40 PIECES", y.about(0), 40);
         is("3: no more", y.piece(0, 0, 0, 0, 0, 0), NONE);
         is("19: the last one's MARK", y.force(39, 3, 3) ? y.of(3, 3, 1) : NONE, 3);
+    }
+
+    /** PIECE 39 is a BLOCK with a GLUE at each of its six SIDES. */
+    private void backToHighestBlock() {
+        Bench x = new Bench();
+        x.glue(50, 1);
+        x.piece(0, 50, 50, 50, 50, 0);
+        for (int i = 1; i < 39; i++) {
+            x.piece(0, 0, 0, 0, 0, 0);
+        }
+        x.piece(2, 50, 50, 50, 50, 3250);
+        x.force(39, 5, 5);
+        x.keep(1);
+        x.back(0);
+        for (int i = 0; i < 40; i++) {
+            x.piece(2, 1, 2, 3, 4, 0);
+        }
+        x.back(1);
+        int[][] beside = {{5, 4}, {7, 5}, {5, 6}, {4, 5}, {6, 4}, {6, 6}};
+        for (int[] place : beside) {
+            is("28: a BLOCK's side at " + place[0] + ", " + place[1], x.hold(0, place[0], place[1]), 1);
+        }
+        is("10: another BLOCK to its right", x.hold(39, 7, 5), 1);
+        is("10: another BLOCK above both its PLACES", x.hold(39, 5, 4), 2);
+        is("18: its other PLACE", x.at(6, 5), 39);
+    }
+
+    /** The numbers are of other KINDS in an IMAGE than they are when it is brought back. */
+    private void backToOtherKinds() {
+        for (int kind = 0; kind <= 5; kind++) {
+            Bench x = new Bench();
+            x.glue(1, 2);
+            x.piece(1, 0, 1, 0, 0, 0);
+            x.piece(0, 0, 0, 0, 1, 0);
+            x.piece(0, 0, 0, 0, 1, 0);
+            x.keep(0);
+            x.back(1);
+            for (int i = 0; i < 3; i++) {
+                x.piece(kind, 0, 0, 0, 0, kind == 4 ? 15 : kind == 5 ? 31 : 0);
+            }
+            x.keep(2);
+            x.back(0);
+            is("28: a SEED again", x.seed(0, 5, 5), true);
+            is("28: two that may come again", x.choices(), 2);
+            is("28: and a rival again", x.come(1, 6, 5) ? x.orderly() : NONE, -3 - 4 * (6 + 16 * 5));
+            x.back(2);
+            is("28: the other KIND again", kind == 1 ? x.seed(2, 3, 3) : x.force(2, 3, 3), true);
+            is("28: its KIND", x.of(3, 3, 0), kind);
+        }
+        Bench y = new Bench();
+        y.glue(1, 2);
+        y.piece(1, 0, 1, 0, 0, 0);
+        y.piece(0, 0, 0, 0, 1, 0);
+        y.keep(0);
+        y.piece(4, 0, 0, 0, 1, 0);
+        y.keep(1);
+        y.back(0);
+        y.piece(0, 0, 0, 0, 1, 0);
+        y.back(1);
+        y.seed(0, 5, 5);
+        is("28: a STOP is no rival, though its number was", y.come(1, 6, 5) ? y.orderly() : NONE, 1);
+        Bench x = Benches.clear();
+        x.seed(0, 5, 5);
+        x.come(3, 6, 5);
+        x.keep(0);
+        x.back(0);
+        is("28: a SEED and a WEAK one", x.seed(0, 9, 9), false);
+        is("28: it goes", x.go(6, 5), true);
+        is("28: a SEED alone", x.seed(0, 9, 9), true);
     }
 
     private void backForgetsSteps() {

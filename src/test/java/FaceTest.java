@@ -1,5 +1,7 @@
 import java.lang.reflect.Member;
+import java.lang.reflect.Method;
 import java.lang.reflect.Modifier;
+import java.util.ArrayList;
 import java.util.Arrays;
 import java.util.TreeSet;
 
@@ -56,8 +58,27 @@ public final class FaceTest {
         for (Class<?> inside : GrowingTiles.class.getDeclaredClasses()) {
             due.is("static " + inside, Modifier.isStatic(inside.getModifiers()), true);
         }
+        checkPrivateNames(due);
         due.is("NONE", GrowingTiles.NONE, -1);
         due.end();
+    }
+
+    /** No private method bears the name of a public one. */
+    private static void checkPrivateNames(Due due) {
+        TreeSet<String> publicNames = new TreeSet<>();
+        for (Method method : GrowingTiles.class.getDeclaredMethods()) {
+            if (Modifier.isPublic(method.getModifiers())) {
+                publicNames.add(method.getName());
+            }
+        }
+        ArrayList<Class<?>> all = new ArrayList<>(Arrays.asList(GrowingTiles.class.getDeclaredClasses()));
+        all.add(GrowingTiles.class);
+        for (Class<?> one : all) {
+            for (Method method : one.getDeclaredMethods()) {
+                boolean shadows = !Modifier.isPublic(method.getModifiers()) && publicNames.contains(method.getName());
+                due.is("the name of " + method, shadows, false);
+            }
+        }
     }
 
     private static void collect(TreeSet<String> seen, Member[] members) {
